@@ -87,9 +87,8 @@ public final class CountTreaty {
     private static final int VISIT_SITE = 8;
     private static final int VISIT_SEALED = 9;
     private static final int QUESTION_LAND = 0;
-    private static final int QUESTION_SITE = 1;
-    private static final int QUESTION_DAY = 2;
-    private static final int QUESTION_ANSWERED = 3;
+    private static final int QUESTION_DAY = 1;
+    private static final int QUESTION_ANSWERED = 2;
     private static final int ACT_KIND = 0;
     private static final int ACT_DAY = 1;
     private static final int ACT_LAND = 2;
@@ -507,7 +506,6 @@ public final class CountTreaty {
             return NONE;
         }
         int question = now.questions.open(land);
-        now.questions.put(question, QUESTION_SITE, site);
         now.questions.put(question, QUESTION_DAY, now.clock);
         now.questions.put(question, QUESTION_ANSWERED, NONE);
         now.addAct(ASKED, land, site, question);
@@ -758,7 +756,7 @@ public final class CountTreaty {
             tolds = new Rows(MOST_TOLD, 4);
             visits = new Rows(MOST_VISITS, 10);
             pictures = new Rows(MOST_PICTURES, 3);
-            questions = new Rows(MOST_QUESTIONS, 4);
+            questions = new Rows(MOST_QUESTIONS, 3);
             acts = new Rows(MOST_ACTS, 5);
             clouds = new Rows(MOST_CLOUDS, 2);
             watches = new Rows(MOST_WATCHED, 2);

@@ -158,7 +158,10 @@ public final class ModelTest {
                 int c = r.nextInt(5) > 0 ? somethingAtScrap(a) : a;
                 due("step(" + c + ")", x.step(c), m.step(c));
                 break;
-            case 8: due("seal(" + b + ")", x.seal(b), m.seal(b)); break;
+            case 8:
+                int calm = r.nextInt(3) == 0 || m.s.seals.isEmpty() ? b : m.s.seals.get(r.nextInt(m.s.seals.size())).site();
+                due("seal(" + calm + ")", x.seal(calm), m.seal(calm));
+                break;
             case 9:
             case 10:
             case 11:
@@ -170,7 +173,13 @@ public final class ModelTest {
             case 14:
             case 15: tell(); break;
             case 16:
-            case 17: due("visit(" + land + ", " + b + ")", x.visit(land, b), m.visit(land, b)); break;
+            case 17:
+                if (!m.s.seals.isEmpty() && r.nextInt(2) == 0) {
+                    b = m.s.seals.get(r.nextInt(m.s.seals.size())).site();
+                    land = 1 - m.s.sites.get(b).land();
+                }
+                due("visit(" + land + ", " + b + ")", x.visit(land, b), m.visit(land, b));
+                break;
             case 18: due("picture(" + b + ")", x.picture(b), m.picture(b)); break;
             case 19:
                 int d = aDay();
@@ -249,6 +258,12 @@ public final class ModelTest {
             case 10:
             case 11:
             case 12:
+                int[] near = nearChange();
+                if (near != null) {
+                    b = near[0];
+                    d = near[1];
+                    q = r.nextInt(3) == 0 ? near[2] : Math.max(d, m.s.clock);
+                }
                 due("possible(" + b + ", " + sort + ", " + d + ", " + q + ", false)", x.possible(b, sort, d, q, false), m.possible(b, sort, d, q, false));
                 due("possible(" + b + ", " + sort + ", " + d + ", " + q + ", " + most + ")", x.possible(b, sort, d, q, most), m.possible(b, sort, d, q, most));
                 TALLY[8] += m.possible(b, sort, d, q, false) > 0 ? 1 : 0;
@@ -272,6 +287,22 @@ public final class ModelTest {
             case 20: for (int w = -1; w < 32; w++) due("about(" + w + ")", x.about(w), m.about(w)); break;
             default: due("fault(" + sort + ")", x.fault(sort), m.fault(sort)); break;
         }
+    }
+
+    /** A SITE, a DAY, a later one: about what the other LAND can know of. */
+    private int[] nearChange() {
+        List<int[]> all = new ArrayList<>();
+        for (Model.Visit v : m.s.visits) all.add(new int[] {v.site(), v.day() - 1});
+        for (Model.Picture p : m.s.pictures) all.add(new int[] {p.site(), p.day() - 1});
+        for (Model.Spot p : m.s.seals) all.add(new int[] {p.site(), p.day()});
+        for (Model.Move v : m.s.moves) {
+            all.add(new int[] {v.from(), v.day()});
+            all.add(new int[] {v.to(), v.coming()});
+        }
+        if (all.isEmpty() || r.nextInt(5) == 0) return null;
+        int[] one = all.get(r.nextInt(all.size()));
+        int d = Math.max(0, Math.min(1999, one[1] - 1 + r.nextInt(4)));
+        return new int[] {one[0], d, Math.min(1999, d + r.nextInt(4 * pace + 1))};
     }
 
     private void lookAtActs(int known) {

@@ -63,6 +63,43 @@ public final class PromisesTest {
         x.days(5);
         due("the image is the new object", x.back(), 0);
         due("no sites in it", x.about(1), 0);
+        firstSpans();
+    }
+
+    /** What leaves is 1 long, 1 heavy, or 200, 500: it fits the first spans; RECORDS err by 2 and 5 at first. */
+    private static void firstSpans() {
+        CountTreaty x = new CountTreaty();
+        x.site(0, 0, true, false);
+        x.site(0, 0, true, false);
+        x.road(0, 1, 1);
+        x.sort(1, 9, 10, 9, 10);
+        x.sort(2, 9, 10, 109, 110);
+        x.sort(3, 9, 10, 300, 300);
+        x.image();
+        x.rules(0, 0, 40);
+        x.make(0, 0, 1, 1);
+        x.make(0, 0, 200, 500);
+        x.days(1);
+        x.visit(1, 0);
+        x.move(0, 1);
+        span("the first sort's least spans", x, 0, 0, 1, 1, 1, 1);
+        x.move(1, 1);
+        span("the first sort's greatest spans", x, 0, 0, 1, 1, 0, 0);
+        x.back();
+        x.sort(0, 100, 100, 1, 1);
+        int[][] beside = {{7, 4, 1}, {12, 15, 1}, {6, 9, 0}, {13, 9, 0}, {9, 3, 0}, {9, 16, 0}, {10, 104, 2}, {10, 115, 2}, {10, 103, 0}, {10, 116, 0}};
+        for (int[] b : beside) x.make(0, 1, b[0], b[1]);
+        x.days(1);
+        x.visit(1, 0);
+        for (int i = 0; i < beside.length; i++) {
+            x.image();
+            x.move(i, 1);
+            int[] seen = {0, 10, 0};
+            span("sort 1 as " + beside[i][0] + ", " + beside[i][1] + " left", x, 0, 1, 1, 1, beside[i][2] == 1 ? 9 : 10, beside[i][2] == 1 ? 9 : 10);
+            if (beside[i][2] == 2) none("sort 2 of which none was there", x.possible(0, 2, 1, 1, true));
+            else span("sort 2", x, 0, 2, 1, 1, seen[2], seen[2]);
+            x.back();
+        }
     }
 
     private static void site() {
@@ -282,6 +319,17 @@ public final class PromisesTest {
         due("there", x.where(1, 9), 2);
         x.road(1, 3, 1);
         due("a later road changes no move", x.where(1, 4), 100);
+        x.image();
+        x.make(1, 0, 1, 1);
+        x.days(1);
+        x.move(2, 3);
+        x.days(1);
+        due("ahead of its only move", x.where(2, 7), 1);
+        due("ahead of it, not made", x.where(2, 6), 102);
+        x.back();
+        due("made again", x.make(1, 0, 1, 1), 2);
+        due("without the moves of ahead", x.thing(2, 6), 0);
+        due("where it was made", x.where(2, 1999), 1);
     }
 
     private static void thing() {
@@ -393,6 +441,17 @@ public final class PromisesTest {
         fault("veil not(sort=1or(length=2and not land=3));", 0, -1);
         fault("counts 0001=1;tell 00360;", 0, -1);
         fault("limit 99 from 1999 to 1999;tell 360;visits 99;steps 9 wait 99;answer 360;counts 9999=9999;", 0, -1);
+        fault("limit 0 from 0 to 0;tell 0;visits 0;steps 1 wait 0;answer 0;", 0, -1);
+        fault("counts landa=1;", 1, 7);
+        fault("counts landz=1;", 1, 7);
+        fault("counts landA=1;", 1, 7);
+        fault("counts landZ=1;", 1, 7);
+        fault("counts land@=1;", 1, 11);
+        fault("counts land[=1;", 1, 11);
+        fault("counts land`=1;", 1, 11);
+        fault("counts land{=1;", 1, 11);
+        fault("tell 1/;", 1, 6);
+        fault("tell 1:;", 1, 6);
         fault("\ttell 1;", 1, 0);
         fault("tell 1;!", 1, 7);
         fault("tell 1;5", 1, 7);
@@ -483,6 +542,31 @@ public final class PromisesTest {
         read(x, "limit 50 from 100 to 100;", 6);
         due("a text with limits, none of which has the day", x.says(8, 0), 99);
         due("it is", x.says(100, 0), 50);
+        x = lands(false);
+        x.make(0, 0, 1, 1);
+        read(x, "limit 5 from 0 to 1999;counts 1=2;", 0);
+        read(x, "limit 2 from 0 to 1999;counts 1=1;", 9);
+        due("the next text's clauses aren't this one's", x.says(8, 0), 5);
+        due("nor its counts", x.counts(0, 0, 8), 0);
+        due("the next text's", x.says(9, 0), 2);
+        due("its counts", x.counts(0, 0, 9), 1);
+        manyTexts();
+    }
+
+    /** Many TEXTS with the most CLAUSES: by going BACK none of them leaves anything behind. */
+    private static void manyTexts() {
+        CountTreaty x = lands(false);
+        x.make(0, 1, 1, 1);
+        x.image();
+        for (int i = 0; i < 25; i++) {
+            for (int k = 0; k < 10; k++) {
+                due("text", read(x, "counts sort=0;".repeat(15) + "counts length=1 and sort=" + (i + k) % 2 + ";", k), k);
+                due("counts by text " + i + ", " + k, x.counts(0, 0, k), (i + k) % 2);
+            }
+            x.back();
+        }
+        read(x, "counts " + "1=2 or ".repeat(40) + "1=1;", 0);
+        due("a long one", x.counts(0, 0, 0), 1);
     }
 
     private static void counts() {
@@ -766,6 +850,37 @@ public final class PromisesTest {
         quiet();
         pictures();
         contradictions();
+        ends();
+    }
+
+    private static void ends() {
+        CountTreaty x = known();
+        for (int i = 0; i < 40; i++) x.make(0, 0, 15, 15);
+        x.days(1);
+        x.visit(1, 0);
+        span("all forty", x, 0, 0, 0, 1, 40, 40);
+        x = known();
+        x.make(1, 0, 15, 15);
+        x.days(400); x.days(400); x.days(400); x.days(400);
+        x.days(398);
+        x.seal(1);
+        x.days(1);
+        x.visit(1, 1);
+        span("the day ahead of the last one", x, 1, 0, 1998, 1999, 1, 1);
+        span("the last day", x, 1, 0, 1999, 1999, 0, 40);
+        x = known();
+        x.site(0, 0, false, false);
+        x.make(0, 2, 105, 105);
+        x.days(1);
+        x.picture(4);
+        span("none by a picture", x, 4, 2, 0, 1, 0, 0);
+        x = new CountTreaty();
+        x.site(0, 0, true, false);
+        x.rules(0, 0, 1);
+        x.make(0, 0, 5, 5);
+        x.days(1);
+        x.picture(0);
+        for (int sort = 0; sort < 4; sort++) span("each sort by a picture", x, 0, sort, 0, 1, 0, 1);
     }
 
     private static void quiet() {
@@ -777,7 +892,8 @@ public final class PromisesTest {
         x.seal(1);
         x.days(4);
         x.visit(1, 1);
-        span("the seal's day isn't quiet", x, 1, 0, 1, 4, 0, 40);
+        span("the seal's day isn't quiet", x, 1, 0, 1, 5, 0, 40);
+        span("nor known as quiet ahead of the visit", x, 1, 0, 2, 4, 0, 40);
         span("the visits' day tells", x, 1, 0, 4, 5, 1, 1);
         x.days(3);
         span("behind the visit nothing is known", x, 1, 0, 5, 8, 0, 40);
@@ -792,6 +908,29 @@ public final class PromisesTest {
         due("broken", x.saw(3, 5), 0);
         span("a broken seal tells nothing", x, 1, 0, 9, 13, 0, 40);
         span("what was seen", x, 1, 0, 12, 13, 2, 2);
+        x = known();
+        x.make(1, 0, 15, 15);
+        x.days(2);
+        x.seal(1);
+        x.days(1);
+        x.visit(1, 1);
+        x.days(5);
+        x.visit(1, 1);
+        span("on its day, as the first visit saw", x, 1, 0, 2, 3, 1, 1);
+        span("two quiet days behind a seal", x, 1, 0, 4, 8, 1, 1);
+        span("by the first visit alone it isn't quiet", x, 1, 0, 4, 7, 0, 40);
+        x = known();
+        x.make(1, 0, 15, 15);
+        x.days(1);
+        x.seal(1);
+        x.days(4);
+        x.visit(1, 1);
+        span("what is seen later tells nothing of the days ahead", x, 1, 0, 3, 5, 0, 40);
+        x.days(1);
+        x.visit(1, 1);
+        span("seen on the first visit", x, 1, 0, 4, 5, 1, 1);
+        span("quiet by the second", x, 1, 0, 5, 6, 1, 1);
+        span("as known ahead of it", x, 1, 0, 5, 5, 0, 40);
         x = known();
         x.make(2, 0, 15, 15);
         x.seal(2);
@@ -929,7 +1068,13 @@ public final class PromisesTest {
 
     private static void doubt() {
         none("without sites", new CountTreaty().doubt(0, 0, 0));
-        CountTreaty x = known();
+        CountTreaty x = new CountTreaty();
+        x.site(0, 0, true, false);
+        x.make(0, 3, 1, 1);
+        x.days(1);
+        x.visit(1, 0);
+        due("a single site", x.doubt(0, 1, 0), 3);
+        x = known();
         x.make(0, 0, 15, 15);
         x.make(0, 2, 15, 15);
         x.make(3, 1, 15, 15);
@@ -1023,6 +1168,7 @@ public final class PromisesTest {
         due("told of another thing", x.judged(5, 9), 2);
         due("which is right", x.judged(8, 3), 0);
         x.days(5);
+        due("told of the other way round", x.judged(5, 8), 3);
         x.image();
         x.tell(2, 1, 3);
         due("told on the last day", x.judged(5, 9), 0);
@@ -1084,6 +1230,19 @@ public final class PromisesTest {
         due("too late", x.judged(13, 364), 7);
         due("as it was open", x.judged(13, 363), 3);
         x = lands(false);
+        read(x, "steps 9 wait 2;", 0);
+        x.make(3, 0, 1, 1);
+        x.make(0, 0, 1, 1);
+        x.days(7);
+        x.step(0);
+        x.move(1, 1);
+        x.days(1);
+        x.step(0);
+        due("a day behind", x.judged(4, 8), 4);
+        x.days(1);
+        x.tell(1, 1, 9);
+        due("the very first one told", x.judged(3, 9), 0);
+        x = lands(false);
         x.make(0, 0, 1, 1);
         x.days(2);
         x.tell(0, 0, 2);
@@ -1116,6 +1275,19 @@ public final class PromisesTest {
         read(x, "limit 1 from 2 to 2;", 2);
         due("more than the limit", x.fails(1, 2, 0), 5);
         none("not on day 0", x.fails(1, 2, 1));
+        x.ask(1, 0);
+        due("not answered", x.fails(7, 1999, 0), 6);
+        x = lands(false);
+        read(x, "limit 1 from 0 to 0;", 0);
+        x.make(0, 0, 1, 1);
+        none("within the limit", x.fails(1, 0, 0));
+        x.make(0, 0, 1, 1);
+        due("the first act", x.fails(1, 0, 0), 0);
+        due("the second", x.fails(1, 0, 1), 1);
+        due("as judged", x.judged(0, 0), 1);
+        read(x, "limit 2 from 0 to 0;", 0);
+        due("as judged", x.judged(0, 0), 0);
+        none("within the new one", x.fails(1, 0, 0));
     }
 
     private static void chance() {
@@ -1184,6 +1356,12 @@ public final class PromisesTest {
         due("two of three: 40/3 is below 15", x.proof(11, 2, 0, 0, 1, 0, 0), 1);
         due("three of three", x.proof(11, 3, 0, 0, 1, 0, 0), 0);
         due("three of three: above", x.proof(11, 3, 3, 2, 4, 0, 0), 1);
+        x.chance(2, 15);
+        x.chance(4, 30);
+        due("five sites by their numbers", x.proof(31, 1, 3, 2, 4, 4, 2), 0);
+        due("the fourth", x.proof(31, 1, 3, 2, 4, 0, 2), 1);
+        due("the fifth", x.proof(31, 1, 3, 2, 4, 4, 3), 1);
+        none("five without weight", x.proof(31, 1, 0, 0, 0, 0, 0));
         none("weights", x.proof(3, 1, 0, 0, 5, 5, 5), x.proof(3, 1, -1, 5, 0, 0, 0), x.proof(3, 1, 5, 1000, 0, 0, 0));
         none("others", x.proof(0, 1, 1, 1, 1, 1, 1), x.proof(3, 3, 1, 1, 1, 1, 1), x.proof(64, 1, 1, 1, 1, 1, 1));
     }
@@ -1218,6 +1396,16 @@ public final class PromisesTest {
         x.watch(5, 0);
         x.watch(5, 1);
         due("a covered site isn't seen", x.unseen(1, 2), 2);
+        x.image();
+        x.make(4, 0, 200, 1);
+        due("not even for a long one", x.unseen(1, 2), 4);
+        x.watch(4, 0);
+        due("the other one is", x.unseen(1, 2), 3);
+        x.make(4, 0, 40, 1);
+        due("one of just SEEN", x.unseen(1, 2), 4);
+        x.make(4, 0, 39, 1);
+        due("one below", x.unseen(1, 2), 6);
+        x.back();
         x.seal(3);
         due("sealed", x.unseen(0, 2), 8);
         x.days(1);
@@ -1233,6 +1421,14 @@ public final class PromisesTest {
         x.days(400); x.days(400); x.days(400); x.days(400); x.days(394);
         due("clock", x.about(0), 1997);
         due("no days behind 1999", x.unseen(0, 30), 18);
+        x = lands(false);
+        x.make(2, 0, 50, 1);
+        x.watch(0, 30);
+        due("a day that is too far off", x.unseen(0, 30), 90);
+        x.watch(0, 29);
+        due("the last of thirty", x.unseen(0, 30), 89);
+        x.watch(1, 0);
+        due("the first of thirty", x.unseen(0, 30), 88);
     }
 
     private static void trick() {
@@ -1250,6 +1446,8 @@ public final class PromisesTest {
         none("others", x.trick(0, 2, 10, 0), x.trick(0, 2, -1, 0), x.trick(0, 2, 0, 3), x.trick(0, 2, 0, -1), x.trick(2, 2, 0, 0), x.trick(0, 0, 0, 0),
             x.trick(0, 31, 0, 0), x.trick(0, 2, FAR, 0), x.trick(-1, 2, 0, 0));
         due("the other land's", x.trick(1, 2, 1, 1), 5);
+        due("a single day", x.trick(0, 1, 1, 1), 1);
+        due("thirty days", x.trick(0, 30, 29, 2), 36);
     }
 
     private static void image() {
@@ -1314,6 +1512,47 @@ public final class PromisesTest {
             none("no way to what isn't there", x.way(4, 6));
         }
         yes("the question", x.answer(0));
+        spansBack();
+    }
+
+    private static void spansBack() {
+        CountTreaty x = known();
+        x.image();
+        x.rules(50, 50, 1);
+        x.sort(0, 1, 200, 1, 500);
+        x.sort(2, 1, 200, 1, 500);
+        x.back();
+        due("seen", x.about(15), 100);
+        x.make(0, 0, 15, 15);
+        x.make(0, 0, 50, 15);
+        x.make(0, 0, 15, 50);
+        x.make(0, 0, 105, 105);
+        x.days(1);
+        x.visit(1, 0);
+        x.move(1, 1);
+        x.move(2, 1);
+        span("by the spans of the image", x, 0, 0, 1, 1, 4, 4);
+        x.move(0, 1);
+        span("and by its rules", x, 0, 0, 1, 1, 3, 3);
+        none("sort 2, too", x.move(3, 1) == 3 ? x.possible(0, 2, 1, 1, true) : 0);
+        x.back();
+        x.rules(0, 5, 100);
+        x.image();
+        x.rules(0, 0, 100);
+        x.back();
+        x.make(0, 0, 15, 25);
+        x.days(1);
+        x.visit(1, 0);
+        x.move(0, 1);
+        span("EW of the image", x, 0, 0, 1, 1, 0, 0);
+        x.back();
+        x.rules(3, 5, 100);
+        x.make(0, 0, 15, 15);
+        x.make(0, 0, 23, 15);
+        x.days(1);
+        x.visit(1, 0);
+        x.move(1, 1);
+        span("EL of now", x, 0, 0, 1, 1, 1, 2);
     }
 
     private static void about() {
