@@ -1438,8 +1438,9 @@ public final class CountTreaty {
         }
 
         /**
-         * From DAY 0 to the last one, over the DAYS alone on which something can change: a DAY like the
-         * one ahead of it, without RECORDS, VISITS or PICTURES, leaves the numbers as they are.
+         * From DAY 0 to the last one, over the DAYS alone on which something can change. A further DAY without
+         * RECORDS, VISITS or PICTURES leaves the numbers as they are: QUIET DAYS begin where all numbers are
+         * POSSIBLE already, or where there is a PORTAL, and they end with a VISIT.
          */
         void walk(State s, int site, int last, int known) {
             for (int sort = 0; sort < sets.length; sort++) {
@@ -1568,9 +1569,6 @@ public final class CountTreaty {
                 int on = s.visits.at(visit, VISIT_DAY);
                 if (s.visits.at(visit, VISIT_SITE) == site && on <= known) {
                     next = sooner(next, on - 1, day);
-                    if (s.visits.at(visit, VISIT_SEAL) == 1) {
-                        next = sooner(next, s.visits.at(visit, VISIT_SEALED) + 1, day);
-                    }
                 }
             }
             for (int picture = 0; picture < s.pictures.count(); picture++) {

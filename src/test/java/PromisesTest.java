@@ -920,6 +920,16 @@ public final class PromisesTest {
         span("two quiet days behind a seal", x, 1, 0, 4, 8, 1, 1);
         span("by the first visit alone it isn't quiet", x, 1, 0, 4, 7, 0, 40);
         x = known();
+        x.make(1, 2, 105, 105);
+        x.days(1);
+        x.seal(1);
+        x.days(1);
+        x.picture(1);
+        x.days(3);
+        x.visit(1, 1);
+        span("by a picture, and then by the very first visit", x, 1, 2, 3, 5, 0, 1);
+        span("without that visit", x, 1, 2, 3, 4, 0, 40);
+        x = known();
         x.make(1, 0, 15, 15);
         x.days(1);
         x.seal(1);
@@ -1423,6 +1433,7 @@ public final class PromisesTest {
         due("no days behind 1999", x.unseen(0, 30), 18);
         x = lands(false);
         x.make(2, 0, 50, 1);
+        x.road(0, 2, 1);
         x.watch(0, 30);
         due("a day that is too far off", x.unseen(0, 30), 90);
         x.watch(0, 29);
@@ -1553,6 +1564,13 @@ public final class PromisesTest {
         x.visit(1, 0);
         x.move(1, 1);
         span("EL of now", x, 0, 0, 1, 1, 1, 2);
+        x.back();
+        x.rules(0, 9, 100);
+        x.make(0, 0, 15, 29);
+        x.days(1);
+        x.visit(1, 0);
+        x.move(0, 1);
+        span("EW of now", x, 0, 0, 1, 1, 0, 0);
     }
 
     private static void about() {
