@@ -2,7 +2,7 @@ import java.util.ArrayList;
 import java.util.List;
 import java.util.Random;
 
-/** Runs of 512 calls by seeded chances, each answer held against the Model's. Argument: how many runs (200). */
+/** Runs of 512 calls by seeded chances, each answer held against the Model's. Argument: how many runs (600). */
 public final class ModelTest {
     private final Random r;
     private final CountTreaty x = new CountTreaty();
@@ -352,7 +352,7 @@ public final class ModelTest {
     }
 
     public static void main(String[] args) {
-        int runs = args.length > 0 ? Integer.parseInt(args[0]) : 200;
+        int runs = args.length > 0 ? Integer.parseInt(args[0]) : 600;
         int first = args.length > 1 ? Integer.parseInt(args[1]) : 0;
         for (int seed = first; seed < first + runs; seed++) {
             ModelTest t = new ModelTest(seed);

@@ -94,10 +94,9 @@ public final class PromisesTest {
         for (int i = 0; i < beside.length; i++) {
             x.image();
             x.move(i, 1);
-            int[] seen = {0, 10, 0};
             span("sort 1 as " + beside[i][0] + ", " + beside[i][1] + " left", x, 0, 1, 1, 1, beside[i][2] == 1 ? 9 : 10, beside[i][2] == 1 ? 9 : 10);
             if (beside[i][2] == 2) none("sort 2 of which none was there", x.possible(0, 2, 1, 1, true));
-            else span("sort 2", x, 0, 2, 1, 1, seen[2], seen[2]);
+            else span("sort 2 as it didn't", x, 0, 2, 1, 1, 0, 0);
             x.back();
         }
     }
@@ -210,7 +209,7 @@ public final class PromisesTest {
         due("about(4)", x.about(4), 3);
         x = lands(false);
         for (int i = 0; i < 40; i++) x.make(0, 0, 1, 1);
-        for (int i = 0; i < 80; i++) due("move", x.move(i % 40, i / 40 * 2 + 1), i >= 40 && i < 40 ? -1 : i < 40 ? i : -1);
+        for (int i = 0; i < 80; i++) due("move", x.move(i % 40, i / 40 * 2 + 1), i < 40 ? i : -1);
         x.days(2);
         for (int i = 0; i < 40; i++) due("move", x.move(i, 2), 40 + i);
         x.days(2);
@@ -721,9 +720,6 @@ public final class PromisesTest {
         x.days(1);
         x.visit(1, 0);
         due("the new seal", x.saw(3, 5), 1);
-        x.visit(1, 1);
-        int[] fourth = {1, 0, 0, 1, 0, -1, 4};
-        x.back();
         x = lands(false);
         x.make(0, 0, 1, 10);
         x.make(1, 3, 1, 10);
@@ -733,7 +729,8 @@ public final class PromisesTest {
         due("not there as the day ahead was over", x.saw(0, 0), 0);
         x.days(2);
         x.visit(1, 1);
-        for (int i = 0; i < 7; i++) due("saw(1, " + i + ")", x.saw(1, i), fourth[i]);
+        int[] there = {1, 0, 0, 1, 0, -1, 4};
+        for (int i = 0; i < 7; i++) due("it came, and there is no seal: saw(1, " + i + ")", x.saw(1, i), there[i]);
         none("others", x.saw(2, 0), x.saw(-1, 0), x.saw(0, 7), x.saw(0, -1), x.saw(0, FAR));
         read(x, "veil 1=1;", 4);
         due("what was seen stays", x.saw(1, 0), 1);
@@ -1178,7 +1175,7 @@ public final class PromisesTest {
         due("told of another thing", x.judged(5, 9), 2);
         due("which is right", x.judged(8, 3), 0);
         x.days(5);
-        due("told of the other way round", x.judged(5, 8), 3);
+        due("still open", x.judged(5, 8), 3);
         x.image();
         x.tell(2, 1, 3);
         due("told on the last day", x.judged(5, 9), 0);
