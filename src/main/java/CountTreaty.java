@@ -155,7 +155,6 @@ public final class CountTreaty {
 
     private final State now;
     private final State kept;
-    private final Rows tape;
     private final Reader reader;
     private final Knowing knowing;
     private final Judge judge;
@@ -165,8 +164,7 @@ public final class CountTreaty {
     public CountTreaty() {
         now = new State();
         kept = new State();
-        tape = new Rows(MOST_BYTES, 1);
-        reader = new Reader(tape);
+        reader = new Reader();
         knowing = new Knowing();
         judge = new Judge();
         shares = new Shares();
@@ -323,28 +321,23 @@ public final class CountTreaty {
     }
 
     public int feed(int a, int b, int c, int d, int e) {
-        if (tape.count() + 20 > MOST_BYTES) {
+        Tokens tokens = reader.tokens;
+        if (tokens.tape.count() + 20 > MOST_BYTES) {
             return NONE;
         }
-        addWord(a);
-        addWord(b);
-        addWord(c);
-        addWord(d);
-        addWord(e);
-        return tape.count();
-    }
-
-    private void addWord(int word) {
-        for (int shift = 24; shift >= 0; shift -= 8) {
-            tape.open(word >> shift & 255);
-        }
+        tokens.addWord(a);
+        tokens.addWord(b);
+        tokens.addWord(c);
+        tokens.addWord(d);
+        tokens.addWord(e);
+        return tokens.tape.count();
     }
 
     public int end(int n) {
-        if (n < 0 || n > tape.count()) {
+        if (n < 0 || n > reader.tokens.tape.count()) {
             return NONE;
         }
-        tape.cut(n);
+        reader.tokens.tape.cut(n);
         return n;
     }
 
@@ -353,7 +346,7 @@ public final class CountTreaty {
             return NONE;
         }
         boolean good = reader.read();
-        tape.cut(0);
+        reader.tokens.tape.cut(0);
         return good ? now.treaty.adopt(reader, from) : NONE;
     }
 
@@ -641,7 +634,7 @@ public final class CountTreaty {
             case 9: return now.pictures.count();
             case 10: return now.questions.count();
             case 11: return now.acts.count();
-            case 12: return tape.count();
+            case 12: return reader.tokens.tape.count();
             case 13: return now.clouds.count();
             case 14: return now.watches.count();
             case 15: return now.seen;
@@ -1113,16 +1106,22 @@ public final class CountTreaty {
         }
     }
 
-    /** The TOKENS of a tape. */
+    /** The tape, and its TOKENS. */
     static final class Tokens {
+        final Rows tape;
         final Rows rows;
-        private final Rows tape;
         private int next;
 
-        Tokens(Rows tape) {
-            this.tape = tape;
+        Tokens() {
+            tape = new Rows(MOST_BYTES, 1);
             rows = new Rows(MOST_BYTES + 1, 3);
             next = 0;
+        }
+
+        void addWord(int word) {
+            for (int shift = 24; shift >= 0; shift -= 8) {
+                tape.open(word >> shift & 255);
+            }
         }
 
         /** Behind the tape each sign is NONE: no run of blanks, letters or digits goes beyond its end. */
@@ -1215,14 +1214,14 @@ public final class CountTreaty {
         boolean hasRead;
         int fault;
         int faultPlace;
-        private final Tokens tokens;
+        final Tokens tokens;
         private final Rows rows;
         private int next;
 
-        Reader(Rows tape) {
+        Reader() {
             clauses = new Rows(MOST_CLAUSES, 4);
             codes = new Rows(MOST_BYTES, 1);
-            tokens = new Tokens(tape);
+            tokens = new Tokens();
             rows = tokens.rows;
             hasRead = false;
             fault = 0;
