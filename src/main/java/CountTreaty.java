@@ -1479,15 +1479,15 @@ public final class CountTreaty {
             }
             for (int move = 0; move < s.moves.count(); move++) {
                 if (s.moves.at(move, MOVE_FROM) == site && s.moves.at(move, MOVE_DAY) == day) {
-                    record(s, s.moves.at(move, MOVE_THING), true);
+                    passPortal(s, s.moves.at(move, MOVE_THING), true);
                 }
                 if (s.moves.at(move, MOVE_TO) == site && s.moves.at(move, MOVE_COMING) == day) {
-                    record(s, s.moves.at(move, MOVE_THING), false);
+                    passPortal(s, s.moves.at(move, MOVE_THING), false);
                 }
             }
         }
 
-        private void record(State s, int thing, boolean leaves) {
+        private void passPortal(State s, int thing, boolean leaves) {
             int fitting = 0;
             for (int sort = 0; sort < sets.length; sort++) {
                 fitting += fits(s, thing, sort) ? 1 : 0;
