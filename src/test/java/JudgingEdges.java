@@ -394,6 +394,10 @@ final class JudgingEdges extends Dues {
             for (int i = 0; i <= due[v].length; i++) due("fails(" + v + ", 5, " + i + ")", y.fails(v, 5, i), i < due[v].length ? due[v][i] : -1);
         }
         each("those that are open", i -> y.fails(3, 2, i), 4, 7, -1);
+        CountTreaty z = twoThings("limit 1 from 0 to 0;");
+        each("more than the limit", i -> z.fails(1, 0, i), 0, 1, -1);
+        with(z, "limit 2 from 0 to 0;", 0);
+        each("by the text that was read later", i -> z.fails(1, 0, i), -1);
     }
 
     @Edge(promise = 36, says = "NONE if there is none such, and for others.")
@@ -977,6 +981,28 @@ final class JudgingEdges extends Dues {
         due("so the next one is text 0", read(x, "", 0), 0);
     }
 
+    @Edge(promise = 45, says = "BACK to THE IMAGE (it stays;")
+    static void backToSpansAndRules() {
+        int[][] things = {{20, 20}, {21, 20}, {20, 21}, {30, 30}};
+        int[] leaving = {0, 1, 1, 1};
+        for (int i = 0; i < things.length; i++) {
+            CountTreaty x = known();
+            x.sort(0, 10, 20, 10, 20);
+            x.rules(0, 0, 100);
+            x.image();
+            yes("spans", x.sort(0, 1, 200, 1, 500));
+            yes("spans", x.sort(1, 1, 200, 1, 500));
+            yes("rules", x.rules(50, 50, 1));
+            due("back", x.back(), 0);
+            due("seen", x.about(15), 100);
+            x.make(0, 0, things[i][0], things[i][1]);
+            x.days(1);
+            x.visit(1, 0);
+            x.move(0, 1);
+            span("by the spans and rules of the image", x, 0, 0, 1, 1, leaving[i], leaving[i]);
+        }
+    }
+
     @Edge(promise = 45, says = "BACK to THE IMAGE")
     static void backFromFullTables() {
         CountTreaty x = lands(false);
@@ -991,6 +1017,38 @@ final class JudgingEdges extends Dues {
             each("about", what -> x.about(what), 0, 6, 4, 0, 0);
             due("the way", x.way(0, 1), 2);
         }
+    }
+
+    @Edge(promise = 45, says = "BACK to THE IMAGE")
+    static void nothingIsLeftBehind() {
+        CountTreaty x = full();
+        x.image();
+        goOn(x);
+        due("back", x.back(), 1);
+        for (int what = 0; what < 7; what++) {
+            none("a thing", x.thing(2, what));
+            none("a visit", x.saw(1, what));
+        }
+        for (int what = 0; what < 4; what++) none("an act", x.act(x.about(11), what));
+        none("the others", x.whole(1, 1), x.whole(1, 1999), x.where(2, 3), x.judged(x.about(11), 3), x.about(26), x.way(6, 6), x.way(0, 6), x.told(2, 1, 1), x.counts(2, 0, 1));
+        no("a question", x.answer(1));
+        no("a site", x.chance(6, 10));
+        due("the texts", x.says(1999, 1), 4);
+        due("clouds can be told", x.cloud(1, 9), 2);
+        due("watched ones can be told", x.watch(1, 9), 2);
+    }
+
+    @Edge(promise = 45, says = "BACK to THE IMAGE (it stays; the tape and the latest FAULT are as they are)")
+    static void backFromLongTexts() {
+        CountTreaty x = with(twoThings(""), "counts land=1;", 0);
+        x.image();
+        for (int i = 0; i < 18; i++) {
+            String last = i % 2 == 0 ? "1=1;" : "1=2;";
+            due("text", read(x, "counts " + "1=2or".repeat(57) + last, 0), 2 + i % 6);
+            due("by its last ask", x.counts(0, 0, 0), 1 - i % 2);
+            if (i % 6 == 5) x.back();
+        }
+        due("by the image's", x.counts(0, 0, 0), 0);
     }
 
     // Promise 46

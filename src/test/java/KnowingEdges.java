@@ -518,6 +518,16 @@ final class KnowingEdges extends Dues {
         y.move(1, 0);
         y.days(1);
         span("one left, none is, one came", y, 0, 0, 4, 4, 1, 1);
+        CountTreaty z = known();
+        z.make(2, 2, 15, 15);
+        z.make(3, 2, 15, 15);
+        z.days(1);
+        z.visit(1, 2);
+        z.visit(1, 3);
+        z.move(0, 1);
+        z.move(1, 1);
+        none("of none, no greater number at a plant", z.possible(2, 0, 1, 1, false), z.possible(2, 0, 9, 9, true));
+        none("of none, no lower number at a scrap site", z.possible(3, 0, 1, 1, false), z.possible(3, 0, 9, 9, true));
     }
 
     @Edge(promise = 29, says = "d is above q,")
@@ -590,6 +600,15 @@ final class KnowingEdges extends Dues {
         z.days(3);
         z.visit(1, 1);
         span("so the days behind aren't quiet", z, 1, 0, 3, 5, 0, 40);
+        CountTreaty w = known();
+        w.make(1, 2, 105, 105);
+        w.seal(1);
+        w.days(2);
+        w.picture(1);
+        w.days(2);
+        w.visit(1, 1);
+        span("quiet by the very first visit: as the picture told", w, 1, 2, 2, 4, 0, 1);
+        span("as known ahead of it", w, 1, 2, 2, 3, 0, 40);
     }
 
     @Edge(promise = 29, says = "Else with a PORTAL: its RECORDS of this DAY by MOVES' numbers (of one MOVE what leaves first):")
@@ -764,6 +783,11 @@ final class KnowingEdges extends Dues {
         y.visit(1, 5);
         span("a plant's next day", y, 4, 0, 1, 1, 0, 40);
         span("a scrap site's", y, 5, 0, 1, 1, 0, 40);
+        CountTreaty z = known();
+        z.days(1);
+        z.picture(1);
+        span("a picture's", z, 1, 2, 0, 1, 0, 0);
+        span("the next day", z, 1, 2, 1, 1, 0, 40);
     }
 
     @Edge(promise = 29, says = "(2) At a plant each greater number is POSSIBLE, too (to 40), at a scrap SITE each lower one.")
@@ -815,6 +839,8 @@ final class KnowingEdges extends Dues {
         CountTreaty z = go(known(), 1999);
         z.visit(1, 0);
         span("the last day but one", z, 0, 0, 1998, 1999, 0, 0);
+        z.visit(1, 1);
+        span("the last day but one, without a portal", z, 1, 0, 1998, 1999, 0, 0);
         span("there is no day behind the last", z, 1, 0, 1999, 1999, 0, 40);
     }
 

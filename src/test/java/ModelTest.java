@@ -2,7 +2,7 @@ import java.util.ArrayList;
 import java.util.List;
 import java.util.Random;
 
-/** Runs of 512 calls by seeded chances, each answer held against the Model's. Argument: how many runs (600). */
+/** Runs of up to 512 calls by seeded chances, each answer held against the Model's. Argument: how many runs (1200). */
 public final class ModelTest {
     private final Random r;
     private final CountTreaty x = new CountTreaty();
@@ -341,7 +341,7 @@ public final class ModelTest {
         int building = 10 + r.nextInt(30);
         int making = r.nextInt(30);
         int reading = r.nextInt(5);
-        while (calls.size() < 700 && !wrong) {
+        while (calls.size() < 470 && !wrong) {
             if (building-- > 0) build();
             else if (making-- > 0) make();
             else if (reading-- > 0) text();
@@ -352,7 +352,7 @@ public final class ModelTest {
     }
 
     public static void main(String[] args) {
-        int runs = args.length > 0 ? Integer.parseInt(args[0]) : 600;
+        int runs = args.length > 0 ? Integer.parseInt(args[0]) : 1200;
         int first = args.length > 1 ? Integer.parseInt(args[1]) : 0;
         for (int seed = first; seed < first + runs; seed++) {
             ModelTest t = new ModelTest(seed);

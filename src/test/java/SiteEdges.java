@@ -300,6 +300,11 @@ final class SiteEdges extends Dues {
         due("the least", fits(made, 1, 1), 1);
         due("the longest", fits(made, 200, 1), 1);
         due("the heaviest", fits(made, 1, 500), 1);
+        CountTreaty x = plainLands();
+        x.rules(0, 0, 1);
+        x.days(1);
+        due("a picture of all that is 1 long", x.picture(0), 0);
+        for (int sort = 0; sort < 4; sort++) span("the shortest of each sort is 1", x, 0, sort, 0, 1, 0, 0);
     }
 
     @Edge(promise = 5, says = "False, changing nothing: others, or a thing was MADE.")
@@ -875,6 +880,32 @@ final class SiteEdges extends Dues {
         due("as it moved on, on the day of coming", x.where(0, 2), 100);
         due("the day ahead", x.where(0, 1), 100);
         due("at the next site", x.where(0, 4), 2);
+        CountTreaty y = twoThings();
+        y.move(0, 1);
+        y.move(1, 2);
+        y.days(5);
+        y.move(1, 0);
+        y.move(0, 0);
+        each("one thing, by its own moves", day -> y.where(0, day), 100, 100, 1, 1, 1, 100, 100, 0, 0, 0);
+        each("the other one", day -> y.where(1, day), 100, 100, 2, 2, 2, 100, 100, 100, 100, 0);
+    }
+
+    @Edge(promise = 12, says = "(as far as is known by acts up to now).")
+    static void whereByAHundredMoves() {
+        CountTreaty x = new CountTreaty();
+        x.site(0, 0, false, false);
+        x.site(0, 0, false, false);
+        x.road(0, 1, 2);
+        x.make(0, 0, 1, 1);
+        x.days(1);
+        for (int i = 0; i < 100; i++) {
+            due("move", x.move(0, 1 - i % 2), i);
+            x.days(2);
+        }
+        each("by the first ones", day -> x.where(0, day), 0, 100, 100, 100, 100, 100);
+        due("its moves", x.thing(0, 6), 100);
+        none("the 101st", x.move(0, 1));
+        each("by the last one", day -> x.where(0, 199 + day), 100, 100, 0, 0);
     }
 
     // Promise 13

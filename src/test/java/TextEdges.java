@@ -244,6 +244,8 @@ final class TextEdges extends Dues {
             if (sign != 32 && sign != 10) fault("tell 1;" + (char) sign, 1, 7);
         }
         fault("tella 1;", 1, 0);
+        fault("tellz 1;", 1, 0);
+        fault("tellA 1;", 1, 0);
         fault("atell 1;", 1, 0);
         fault("Atell 1;", 1, 0);
         fault("tellZ 1;", 1, 0);
@@ -316,6 +318,10 @@ final class TextEdges extends Dues {
         fault("answer 361;", 2, 7);
         fault("tell 361", 2, 5);
         fault("tell 361 361 x (", 2, 5);
+        fault("counts 1=1 or 10000=1;", 2, 14);
+        fault("counts 1=1 and 1=10000;", 2, 17);
+        fault("counts not 10000=1;", 2, 11);
+        fault("counts (1=1 or 1=10000);", 2, 17);
     }
 
     @Edge(promise = 18, says = "FAULTS, the first as TOKENS are come to, at the TOKEN's first byte (of the end at the length), of one the least: 1 it can't stand there, or is none.")
@@ -343,6 +349,12 @@ final class TextEdges extends Dues {
         fault("counts 1 10000;", 1, 9);
         fault("10000", 1, 0);
         fault("counts 1=1 (1=1);", 1, 11);
+        fault("counts (1=1;", 1, 11);
+        fault("counts 1=1);", 1, 10);
+        fault("counts #1=1);", 1, 7);
+        fault("counts 1(1;", 1, 8);
+        fault("counts 1)1;", 1, 8);
+        fault("tell 1)", 1, 6);
         fault("counts 1=(1);", 1, 9);
         fault("counts (1)=1;", 1, 9);
         fault("counts ();", 1, 8);
@@ -472,6 +484,39 @@ final class TextEdges extends Dues {
         due("a text with a fault isn't one", x.says(16, 1), 5);
     }
 
+    @Edge(promise = 19, says = "TEXTS in force from that DAY or ahead")
+    static void eachTextHasItsOwnClauses() {
+        CountTreaty x = twoThings();
+        with(x, "counts 1=2 and(1=1 or 1=1);veil 1=2;", 0);
+        with(x, "limit 1 from 2 to 3;veil sort=1;tell 4;counts sort=2;steps 5 wait 6;", 1);
+        with(x, "veil sort=2;visits 7;counts sort=1;answer 8;limit 9 from 1 to 1;", 3);
+        each("day 0", what -> x.says(0, what), 99, 30, 99, 3, 0, 30);
+        each("day 2", what -> x.says(2, what), 1, 4, 99, 5, 6, 30);
+        each("day 3", what -> x.says(3, what), 99, 4, 7, 5, 6, 8);
+        each("thing 0 counts", day -> x.counts(0, 0, day), 0, 0, 0, 1);
+        each("thing 1 counts", day -> x.counts(1, 4, day), 0, 1, 1, 0);
+        for (int day = 1; day < 4; day++) {
+            go(x, day);
+            x.visit(1, 0);
+            x.visit(0, 4);
+        }
+        each("thing 0 is veiled", i -> x.saw(2 * i, 4), 1, 1, 0);
+        each("thing 1 is veiled", i -> x.saw(2 * i + 1, 4), 0, 0, 1);
+    }
+
+    @Edge(promise = 19, says = "THE TEXT for a sort of CLAUSE on a DAY:")
+    static void tenTextsOfTheMostClauses() {
+        CountTreaty x = twoThings();
+        x.image();
+        for (int round = 0; round < 2; round++) {
+            for (int i = 0; i < 10; i++) {
+                with(x, "counts 1=2 or 1=2;".repeat(15) + "counts sort=" + (i + round) % 2 + ";", i);
+            }
+            for (int i = 0; i < 10; i++) due("counts by text " + i, x.counts(0, 0, i), (i + round) % 2);
+            x.back();
+        }
+    }
+
     @Edge(promise = 19, says = "LIMIT on a DAY: the least NUMBER of its limit CLAUSES that have that DAY; without 99.")
     static void theLeastLimit() {
         CountTreaty x = with(new CountTreaty(), "limit 5 from 3 to 9;limit 4 from 9 to 12;limit 7 from 8 to 8;limit 0 from 20 to 20;", 0);
@@ -489,6 +534,9 @@ final class TextEdges extends Dues {
         due("a day ahead of the text's", y.says(6, 0), 99);
         due("the text's", y.says(7, 0), 8);
         due("the last", y.says(1999, 0), 8);
+        with(y, "limit 0 from 0 to 1999;", 50);
+        due("the day ahead of the next text's", y.says(49, 0), 8);
+        due("the next text's", y.says(50, 0), 0);
     }
 
     @Edge(promise = 19, says = "TELL, VISITS, ANSWER: the first such CLAUSE's; without 30, 99, 30.")
