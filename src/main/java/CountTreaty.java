@@ -650,7 +650,7 @@ public final class CountTreaty {
 
         Rows(int most, int width) {
             this.width = Math.max(1, width);
-            this.cells = new int[Math.max(1, most) * this.width];
+            this.cells = new int[Math.max(1, most * this.width)];
             this.count = 0;
         }
 

@@ -39,6 +39,12 @@ class Dues {
         return x.text(from);
     }
 
+    /** An object with one more TEXT, in force from a DAY on. */
+    static CountTreaty with(CountTreaty x, String words, int from) {
+        due(words, read(x, words, from) >= 0 ? 1 : 0, 1);
+        return x;
+    }
+
     /** The FAULT of words as a TEXT (0 without), its place. */
     static void fault(String words, int why, int at) {
         CountTreaty x = new CountTreaty();

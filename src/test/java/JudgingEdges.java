@@ -2,11 +2,6 @@ import java.util.function.Supplier;
 
 /** Edges of the promises 34 to 46, and of the terms under IV and V: ACTS, how they are JUDGED, VISITS shared, what is UNSEEN, THE IMAGE. */
 final class JudgingEdges extends Dues {
-    private static CountTreaty with(CountTreaty x, String words, int from) {
-        due(words, read(x, words, from) >= 0 ? 1 : 0, 1);
-        return x;
-    }
-
     /** The lands with things 0 at SITE 0 and 1 at SITE 3, and a TEXT. */
     private static CountTreaty twoThings(String words) {
         CountTreaty x = with(lands(false), words, 0);

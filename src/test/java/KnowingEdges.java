@@ -11,11 +11,6 @@ final class KnowingEdges extends Dues {
         return go(x, 5);
     }
 
-    private static CountTreaty with(CountTreaty x, String words, int from) {
-        due(words, read(x, words, from) >= 0 ? 1 : 0, 1);
-        return x;
-    }
-
     // Promise 22
 
     @Edge(promise = 22, says = "TOLD: its number.")

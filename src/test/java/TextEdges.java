@@ -20,11 +20,6 @@ final class TextEdges extends Dues {
         return x;
     }
 
-    private static CountTreaty with(CountTreaty x, String words, int from) {
-        due(words, read(x, words, from) >= 0 ? 1 : 0, 1);
-        return x;
-    }
-
     /** Whether a condition is so for thing 0 of twoThings at SITE 0. */
     private static int so(String condition) { return with(twoThings(), "counts " + condition + ";", 0).counts(0, 0, 0); }
 
