@@ -61,6 +61,7 @@ final class JudgingEdges extends Dues {
         CountTreaty x = twoThings("");
         none("no such act", x.act(2, 0), x.act(-1, 0), x.act(FAR, 0), x.act(LOW, 0));
         none("nothing such", x.act(0, -1), x.act(0, 4), x.act(0, 5), x.act(0, FAR), x.act(0, LOW));
+        none("nor of the last one", x.act(1, -1), x.act(1, 4), x.act(1, 5), x.act(1, FAR), x.act(1, LOW));
         due("the last of all", x.act(1, 3), 1);
     }
 

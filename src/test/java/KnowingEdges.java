@@ -266,6 +266,12 @@ final class KnowingEdges extends Dues {
         none("no such visit", x.saw(1, 0), x.saw(-1, 0), x.saw(FAR, 0), x.saw(LOW, 0));
         none("nothing such", x.saw(0, -1), x.saw(0, 7), x.saw(0, 8), x.saw(0, 9), x.saw(0, FAR), x.saw(0, LOW));
         due("its day", x.saw(0, 6), 5);
+        x.seal(0);
+        x.days(1);
+        x.visit(1, 0);
+        x.visit(1, 0);
+        none("nothing such of the last ones", x.saw(1, 7), x.saw(1, 9), x.saw(1, 10), x.saw(2, -1), x.saw(2, 7), x.saw(2, LOW));
+        due("the last one's seal", x.saw(2, 5), 1);
     }
 
     @Edge(promise = 26, says = "how many of each SORT aren't VEILED (by THE TREATY of the VISIT's DAY), how many are (of all SORTS together),")

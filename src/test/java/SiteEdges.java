@@ -207,6 +207,7 @@ final class SiteEdges extends Dues {
         for (int i = 0; i < 10; i++) x.site(0, 0, false, false);
         for (int i = 9; i > 0; i--) x.road(i, i - 1, 60);
         due("the longest way of all", x.way(0, 9), 540);
+        none("to no such site, from each one", x.way(0, 10), x.way(8, 10), x.way(9, 10), x.way(1, -1), x.way(9, -1));
         due("and back", x.way(9, 0), 540);
         x.road(3, 5, 60);
         due("one that leaves a site out", x.way(0, 9), 480);
@@ -931,6 +932,7 @@ final class SiteEdges extends Dues {
         CountTreaty x = twoThings();
         none("no such thing", x.thing(-1, 0), x.thing(2, 0), x.thing(FAR, 6), x.thing(LOW, 6));
         none("nothing such of it", x.thing(0, -1), x.thing(0, 7), x.thing(0, 8), x.thing(0, 9), x.thing(0, 10), x.thing(0, 11), x.thing(0, FAR), x.thing(0, LOW));
+        none("nor of the last one", x.thing(1, -1), x.thing(1, 7), x.thing(1, FAR), x.thing(1, LOW));
         due("the last thing", x.thing(1, 6), 0);
     }
 
