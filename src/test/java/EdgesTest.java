@@ -96,6 +96,6 @@ public final class EdgesTest extends Dues {
         }
         if (!Files.exists(DOC)) System.out.println(DOC + " isn't there: the tests' words aren't held against it");
         else if (args.length == 0) holdAgainst(document(), tests);
-        close(tests.size() + " sentences of " + count.size() + " promises", args.length > 0 || count.size() == PROMISES);
+        close(tests.size() + " tests of sentences of " + count.size() + " promises", args.length > 0 || count.size() == PROMISES);
     }
 }
